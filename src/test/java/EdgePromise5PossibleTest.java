@@ -33,13 +33,13 @@ public final class EdgePromise5PossibleTest {
         }
     }
 
-    /** The same clauses, soft and then hard. */
+    /** The same clause, which never holds, as soft ones and as hard ones. */
     private static void softOnesDoNotForbid() {
         SoftSolver soft = new SoftSolver();
         SoftSolver hard = new SoftSolver();
         for (int i = 0; i < 24; i++) {
-            soft.soft(i % 3, 50);
-            hard.hard(i % 3);
+            soft.soft(0, 50);
+            hard.hard(0);
             Due.is("possible() with " + (i + 1) + " soft ones", soft.possible(), 1);
             Due.is("possible() with " + (i + 1) + " hard ones", hard.possible(), 0);
         }

@@ -4,6 +4,7 @@ public final class EdgePromise6NoneTest {
         nothingLostIsNotNone();
         oneAllowedOrNone();
         softOnesAloneNeverLeaveNone();
+        leastThenNextThenNone();
         Due.end();
     }
 
@@ -41,5 +42,18 @@ public final class EdgePromise6NoneTest {
         x.drop(0);
         x.hard(0);
         Due.is("loss() with none allowed", x.loss(), -1);
+    }
+
+    /** Two variables cost 3 and 4 when true; forbidding the cheapest each time ends with none. */
+    private static void leastThenNextThenNone() {
+        SoftSolver x = new SoftSolver();
+        x.soft(2, 3);
+        x.soft(8, 4);
+        int[] want = {0, 3, 4, 7, -1};
+        for (int values = 0; values < 4; values++) {
+            Due.is("loss() with " + values + " forbidden", x.loss(), want[values]);
+            x.hard(Made.allBut(values) & 15);
+        }
+        Due.is("loss() with all four forbidden", x.loss(), want[4]);
     }
 }
