@@ -2,6 +2,7 @@ import com.sun.source.tree.*;
 import com.sun.source.util.JavacTask;
 import com.sun.source.util.TreePath;
 import com.sun.source.util.TreePathScanner;
+import com.sun.source.util.TreeScanner;
 import java.io.IOException;
 import java.nio.file.Files;
 import java.nio.file.Path;
@@ -16,7 +17,7 @@ import javax.lang.model.element.Modifier;
 import javax.tools.JavaCompiler;
 import javax.tools.ToolProvider;
 
-/** The source keeps to LANGUAGE.md, as far as its text can tell; rule 7 is for the runs of calls. */
+/** The source keeps to LANGUAGE.md, as far as its text can tell; CallsEndTest is for rule 7. */
 public final class LanguageTest extends TreePathScanner<Void, Void> {
     private static final Path SOURCE = Path.of("src/main/java/SoftSolver.java");
     private static final Set<String> NUMBERS = Set.of("int", "long", "short", "byte", "char", "boolean");
@@ -27,6 +28,13 @@ public final class LanguageTest extends TreePathScanner<Void, Void> {
             Tree.Kind.DOUBLE_LITERAL, Tree.Kind.NEW_CLASS, Tree.Kind.IMPORT, Tree.Kind.PACKAGE,
             Tree.Kind.INTERFACE, Tree.Kind.ENUM, Tree.Kind.RECORD, Tree.Kind.ANNOTATION_TYPE,
             Tree.Kind.ENHANCED_FOR_LOOP, Tree.Kind.ANNOTATION);
+
+    /** The class divides nothing, so no divisor has to be looked at. */
+    private static final Set<Tree.Kind> DIVIDING = Set.of(
+            Tree.Kind.DIVIDE, Tree.Kind.REMAINDER, Tree.Kind.DIVIDE_ASSIGNMENT, Tree.Kind.REMAINDER_ASSIGNMENT);
+    private static final Set<Tree.Kind> COUNTING = Set.of(
+            Tree.Kind.PREFIX_INCREMENT, Tree.Kind.PREFIX_DECREMENT,
+            Tree.Kind.POSTFIX_INCREMENT, Tree.Kind.POSTFIX_DECREMENT);
 
     private final Map<String, Set<String>> callsOf = new TreeMap<>();
     private final Set<String> methods = new TreeSet<>();
@@ -100,6 +108,7 @@ public final class LanguageTest extends TreePathScanner<Void, Void> {
     public Void scan(Tree tree, Void unused) {
         if (tree != null) {
             keeps("a kind that rules 1 to 6 leave", tree, !RULED_OUT.contains(tree.getKind()));
+            keeps("rule 7: no divisor", tree, !DIVIDING.contains(tree.getKind()));
         }
         return super.scan(tree, unused);
     }
@@ -169,8 +178,7 @@ public final class LanguageTest extends TreePathScanner<Void, Void> {
 
     @Override
     public Void visitMemberSelect(MemberSelectTree tree, Void unused) {
-        boolean own = tree.getExpression().toString().equals("this");
-        keeps("rule 3: no member of another class", tree, own || tree.getIdentifier().contentEquals("length"));
+        keeps("rule 3: the class gets by without a member of anything", tree, false);
         return super.visitMemberSelect(tree, unused);
     }
 
@@ -185,11 +193,15 @@ public final class LanguageTest extends TreePathScanner<Void, Void> {
         return super.visitNewArray(tree, unused);
     }
 
+    /** Used by index alone, an array is never answered, compared, handed on or assigned. */
     @Override
-    public Void visitAssignment(AssignmentTree tree, Void unused) {
-        String target = tree.getVariable().toString().replace("this.", "");
-        keeps("rule 4: no array field is assigned", tree, !arrayFields.contains(target));
-        return super.visitAssignment(tree, unused);
+    public Void visitIdentifier(IdentifierTree tree, Void unused) {
+        if (arrayFields.contains(tree.getName().toString())) {
+            boolean indexed = getCurrentPath().getParentPath().getLeaf() instanceof ArrayAccessTree access
+                    && access.getExpression() == tree;
+            keeps("rule 4: an array is used by index alone", tree, indexed);
+        }
+        return super.visitIdentifier(tree, unused);
     }
 
     @Override
@@ -198,11 +210,45 @@ public final class LanguageTest extends TreePathScanner<Void, Void> {
         return super.visitTypeCast(tree, unused);
     }
 
+    /** The form that the class gets by with: for (int i = first; i < bound; i++). */
     @Override
     public Void visitForLoop(ForLoopTree tree, Void unused) {
-        boolean counts = tree.getUpdate().size() == 1 && tree.getInitializer().size() == 1;
-        keeps("rule 8: a counter against a bound", tree, counts && tree.getCondition() instanceof BinaryTree);
+        boolean oneOfEach = tree.getInitializer().size() == 1 && tree.getUpdate().size() == 1;
+        boolean counts = oneOfEach && tree.getInitializer().get(0) instanceof VariableTree counter
+                && tree.getCondition() instanceof BinaryTree condition
+                && condition.getKind() == Tree.Kind.LESS_THAN
+                && condition.getLeftOperand().toString().equals(counter.getName().toString())
+                && condition.getRightOperand().getKind() == Tree.Kind.IDENTIFIER
+                && tree.getUpdate().get(0).getExpression().toString().equals(counter.getName() + "++")
+                && leavesAlone(tree.getStatement(), counter.getName().toString())
+                && leavesAlone(tree.getStatement(), condition.getRightOperand().toString());
+        keeps("rule 8: a counter against a bound", tree, counts);
         return super.visitForLoop(tree, unused);
+    }
+
+    /** A body that calls nothing which assigns to the bound is for the reader to see. */
+    private static boolean leavesAlone(Tree body, String name) {
+        Set<String> changed = new TreeSet<>();
+        new TreeScanner<Void, Void>() {
+            @Override
+            public Void visitAssignment(AssignmentTree tree, Void unused) {
+                changed.add(tree.getVariable().toString());
+                return super.visitAssignment(tree, unused);
+            }
+
+            @Override
+            public Void visitCompoundAssignment(CompoundAssignmentTree tree, Void unused) {
+                changed.add(tree.getVariable().toString());
+                return super.visitCompoundAssignment(tree, unused);
+            }
+
+            @Override
+            public Void visitUnary(UnaryTree tree, Void unused) {
+                changed.add(COUNTING.contains(tree.getKind()) ? tree.getExpression().toString() : "");
+                return super.visitUnary(tree, unused);
+            }
+        }.scan(body, null);
+        return !changed.contains(name);
     }
 
     @Override

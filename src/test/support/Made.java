@@ -69,4 +69,20 @@ final class Made {
         }
         return clause;
     }
+
+    /** Told by division, not by a mask, so that it shares no mistake with the class. */
+    static boolean holds(int clause, int assignment) {
+        for (int v = 0; v < 8; v++) {
+            int literal = literalOf(v, assignment);
+            if (Math.floorMod(Math.floorDiv(clause, 1 << literal), 2) == 1) {
+                return true;
+            }
+        }
+        return false;
+    }
+
+    /** What this one assignment loses, or -1 if it is not allowed: no other one is asked about. */
+    static int lossOf(SoftSolver x, int assignment) {
+        return x.lossAgainst(allBut(assignment));
+    }
 }
