@@ -226,7 +226,7 @@ public final class LanguageTest extends TreePathScanner<Void, Void> {
         return super.visitForLoop(tree, unused);
     }
 
-    /** A body that calls nothing which assigns to the bound is for the reader to see. */
+    /** Sees what the body assigns itself, not what a method it calls may assign. */
     private static boolean leavesAlone(Tree body, String name) {
         Set<String> changed = new TreeSet<>();
         new TreeScanner<Void, Void>() {
